@@ -1,5 +1,6 @@
 import java.util.ArrayDeque;
 import java.util.ArrayList;
+import java.util.Arrays;
 import java.util.Comparator;
 import java.util.HashMap;
 import java.util.List;
@@ -11,11 +12,14 @@ import java.util.TreeMap;
  * and the edit distance is found by trying the steps that the document names, one after another.
  */
 public final class ModelTest {
-    private static final int RUNS = 200;
+    private static final int RUNS = 1000;
     /** The document promises 512 calls; the last step of a run may make up to eight. */
     private static final int CALLS = 504;
 
-    private static final Map<String, Map<String, Integer>> STEPS = new HashMap<>();
+    /** Codes of at most six letters are below five to the power of six. */
+    private static final int CODES = 15625;
+    private static final Map<Integer, int[]> NEIGHBOURS = neighbours();
+    private static final Map<Integer, byte[]> STEPS = new HashMap<>();
 
     private final FuzzyTypeahead real;
     private final int limit;
@@ -241,7 +245,7 @@ public final class ModelTest {
     private int reach(String word) {
         int least = Integer.MAX_VALUE;
         for (int n = 0; n <= word.length(); n++) {
-            least = Math.min(least, stepsFrom(query).get(word.substring(0, n)));
+            least = Math.min(least, steps(query, word.substring(0, n)));
         }
         return least;
     }
@@ -249,7 +253,7 @@ public final class ModelTest {
     private int modelNearest() {
         int least = Integer.MAX_VALUE;
         for (String word : dictionary.keySet()) {
-            least = Math.min(least, stepsFrom(query).get(word));
+            least = Math.min(least, steps(query, word));
         }
         return least <= limit ? least : -4;
     }
@@ -274,29 +278,47 @@ public final class ModelTest {
         return set;
     }
 
-    /**
-     * The edit distances of one list to all lists of at most six letters. Lists of more letters
-     * are not needed on the way: steps may be put in an order where letters go out first.
-     */
-    private static Map<String, Integer> stepsFrom(String start) {
-        return STEPS.computeIfAbsent(start, ModelTest::walk);
+    /** The edit distance of two lists of at most six letters. */
+    private static int steps(String one, String two) {
+        return STEPS.computeIfAbsent(code(one), ModelTest::walk)[code(two)];
     }
 
-    private static Map<String, Integer> walk(String start) {
-        Map<String, Integer> steps = new HashMap<>();
-        ArrayDeque<String> open = new ArrayDeque<>();
-        steps.put(start, 0);
+    /**
+     * The edit distances of one list to all lists of at most six letters, at their codes. Lists of
+     * more letters are not needed on the way: steps may be put in an order where letters go out
+     * first.
+     */
+    private static byte[] walk(int start) {
+        byte[] steps = new byte[CODES];
+        Arrays.fill(steps, (byte) -1);
+        ArrayDeque<Integer> open = new ArrayDeque<>();
+        steps[start] = 0;
         open.add(start);
         while (!open.isEmpty()) {
-            String list = open.remove();
-            for (String next : oneStepFrom(list)) {
-                if (next.length() <= 6 && !steps.containsKey(next)) {
-                    steps.put(next, steps.get(list) + 1);
+            int list = open.remove();
+            for (int next : NEIGHBOURS.get(list)) {
+                if (steps[next] < 0) {
+                    steps[next] = (byte) (steps[list] + 1);
                     open.add(next);
                 }
             }
         }
         return steps;
+    }
+
+    /** For each list of at most six letters, at its code, the codes of those one step away. */
+    private static Map<Integer, int[]> neighbours() {
+        Map<Integer, int[]> result = new HashMap<>();
+        List<String> lists = new ArrayList<>(List.of(""));
+        for (int i = 0; i < lists.size(); i++) {
+            String list = lists.get(i);
+            for (int c = 0; c <= 3 && list.length() < 6; c++) {
+                lists.add(list + c);
+            }
+            result.put(code(list), oneStepFrom(list).stream()
+                .filter(next -> next.length() <= 6).mapToInt(ModelTest::code).distinct().toArray());
+        }
+        return result;
     }
 
     private static List<String> oneStepFrom(String list) {
