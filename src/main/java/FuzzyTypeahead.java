@@ -303,8 +303,7 @@ public final class FuzzyTypeahead {
         }
         int rest = code;
         for (int taken = 1; taken <= MAX_LETTERS && rest != EMPTY; taken++) {
-            int letter = lastLetter(rest);
-            extendRow(letter, taken * restCost);
+            extendRow(rest % BASE, taken * restCost);
             rest = rest / BASE;
         }
         int whole = lengthOf(queryCode);
@@ -313,15 +312,15 @@ public final class FuzzyTypeahead {
 
     /**
      * row[n] is the distance between the last n letters of the query and the letters of the word
-     * that have been taken so far; this takes one letter more.
+     * that have been taken so far; this takes one letter more, given by its digit.
      */
-    private void extendRow(int letter, int withoutQuery) {
+    private void extendRow(int digit, int withoutQuery) {
         int diagonal = row[0];
         row[0] = withoutQuery;
         int rest = queryCode;
         for (int n = 1; n < ROW_LENGTH && rest != EMPTY; n++) {
             int above = row[n];
-            int least = lastLetter(rest) == letter ? diagonal : diagonal + 1;
+            int least = rest % BASE == digit ? diagonal : diagonal + 1;
             if (above + 1 < least) {
                 least = above + 1;
             }

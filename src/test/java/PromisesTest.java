@@ -451,10 +451,12 @@ public final class PromisesTest {
         due("length() is as it was", x.length(), 6);
         FuzzyTypeahead y = new FuzzyTypeahead(0);
         addWord(y, "333333", 0);
+        addWord(y, "33333", 0);
         addWord(y, "033333", 0);
         addWord(y, "1", 0);
-        dueOffers(y, "033333", "1", "333333");
-        due("code of 333333", y.offer(2), 15624);
+        addWord(y, "0", 0);
+        dueOffers(y, "0", "033333", "1", "33333", "333333");
+        due("code of 333333", y.offer(4), 15624);
     }
 
     private static void distance() {
